@@ -1,0 +1,89 @@
+/** Promises 9, 10 and 11: entries, entry and amount. */
+final class EntryTest {
+    private static final Checks CHECKS = new Checks();
+
+    public static void main(String[] args) {
+        whatMakesAnEntry();
+        whatItHas();
+        outOfBounds();
+        CHECKS.end();
+    }
+
+    private static Bench bench() {
+        Bench bench = new Bench();
+        bench.desk.open(5, 100);
+        return bench;
+    }
+
+    private static void entriesAfter(Bench bench, Message message, int want) {
+        bench.send(message);
+        CHECKS.due("entries() after " + message.hex(), bench.desk.entries(), want);
+    }
+
+    private static void whatMakesAnEntry() {
+        Bench bench = bench();
+        entriesAfter(bench, Message.hold(5, 1, 1), 1);
+        entriesAfter(bench, Message.hold(6, 1, 2), 2);
+        entriesAfter(bench, Message.hold(5, 1, 1), 2);
+        entriesAfter(bench, Message.debit(5, 1000, 1), 3);
+        entriesAfter(bench, Message.money("0200", "55", 5, 1, 2), 4);
+        entriesAfter(bench, Message.reversal(5, 1, 99), 5);
+        entriesAfter(bench, Message.money("0800", "00", 5, 1, 9), 5);
+        entriesAfter(bench, Message.hold(5, 1, 10).without(4), 5);
+        entriesAfter(bench, Message.settlement(1).terminal("ELSE"), 6);
+        entriesAfter(bench, Message.settlement(1), 3);
+        bench.desk.tick(50);
+        CHECKS.due("entries() when a hold has ended", bench.desk.entries(), 3);
+    }
+
+    private static void whatItHas() {
+        Bench bench = bench();
+        bench.send(Message.hold(5, 60, 999999));
+        bench.send(Message.hold(5, 999999999999L, 0));
+        bench.send(Message.money("0100", "01", 5, 2, 3));
+        bench.send(Message.debit(5, 40, 4));
+        bench.send(Message.credit(5, 7, 5));
+        bench.send(Message.debit(5, 50, 6).original(999999));
+        bench.send(Message.reversal(5, 7, 5));
+        bench.send(Message.reversal(5, 8, 5));
+        bench.send(Message.settlement(9).terminal("ELSE"));
+        bench.send(Message.hold(77, 11, 10));
+        CHECKS.due("types", bench.column(0), "100 100 100 200 200 200 400 400 500 100");
+        CHECKS.due("traces", bench.column(1), "999999 0 3 4 5 6 7 8 9 10");
+        CHECKS.due("answers", bench.column(2), "0 51 12 0 0 0 0 25 0 14");
+        CHECKS.due("states", bench.column(3), "2 0 0 0 3 0 0 0 0 0");
+        long[] amounts = {60, 999999999999L, 2, 40, 7, 50, 0, 0, 0, 11};
+        for (int k = 0; k < amounts.length; k++) {
+            CHECKS.due("amount(" + k + ")", bench.desk.amount(k), amounts[k]);
+        }
+    }
+
+    private static void none(Bench bench, int k) {
+        CHECKS.due("amount(" + k + ")", bench.desk.amount(k), -1);
+        for (int what = 0; what <= 3; what++) {
+            CHECKS.due("entry(" + k + ", " + what + ")", bench.desk.entry(k, what), -1);
+        }
+    }
+
+    private static void outOfBounds() {
+        Bench bench = bench();
+        bench.send(Message.debit(5, 1, 1));
+        bench.send(Message.hold(5, 2, 2));
+        int[] outside = {-1, 2, 3, 24, 31, 32, 33, Integer.MIN_VALUE, Integer.MAX_VALUE};
+        for (int k : outside) {
+            none(bench, k);
+        }
+        int[] nothing = {-1, 4, 5, 100, Integer.MIN_VALUE, Integer.MAX_VALUE};
+        for (int what : nothing) {
+            CHECKS.due("entry(0, " + what + ")", bench.desk.entry(0, what), -1);
+            CHECKS.due("entry(9, " + what + ")", bench.desk.entry(9, what), -1);
+        }
+        // What has been taken out is no entry any more.
+        bench.send(Message.debit(5, 3, 3));
+        bench.send(Message.settlement(4));
+        CHECKS.due("traces", bench.column(1), "2 4");
+        none(bench, 2);
+        CHECKS.due("amount(0)", bench.desk.amount(0), 2);
+        CHECKS.due("amount(1)", bench.desk.amount(1), 0);
+    }
+}

@@ -1,0 +1,113 @@
+/** Promise 4: requests of type 0200. */
+final class HandleMoneyTest {
+    private static final Checks CHECKS = new Checks();
+
+    public static void main(String[] args) {
+        sorts();
+        debits();
+        credits();
+        completions();
+        completionsThatFindNoHold();
+        completedHoldsHoldNothing();
+        CHECKS.end();
+    }
+
+    private static Bench bench() {
+        Bench bench = new Bench();
+        bench.desk.open(5, 100);
+        bench.desk.open(77, 1000);
+        return bench;
+    }
+
+    private static void sorts() {
+        for (int kind = 0; kind < 100; kind++) {
+            String digits = String.format("%02d", kind);
+            int want = kind == 0 || kind == 20 ? 0 : 12;
+            CHECKS.due("sort " + kind, bench().send(Message.money("0200", digits, 5, 1, 1)), want);
+            Message naming = Message.money("0200", digits, 5, 1, 1).original(1);
+            CHECKS.due("sort " + kind + " with 56", bench().send(naming), kind == 0 ? 25 : 12);
+        }
+        CHECKS.due("14 before 12", bench().send(Message.money("0200", "01", 6, 1, 1)), 14);
+        CHECKS.due("14 before 25", bench().send(Message.debit(6, 1, 1).original(1)), 14);
+        CHECKS.due("12 before 51", bench().send(Message.money("0200", "01", 5, 101, 1)), 12);
+        CHECKS.due("sort 009999", bench().send(Message.debit(5, 1, 1).sort("009999")), 0);
+        CHECKS.due("sort 209999", bench().send(Message.credit(5, 1, 1).sort("209999")), 0);
+    }
+
+    private static void debits() {
+        Bench bench = bench();
+        CHECKS.due("too much", bench.send(Message.debit(5, 101, 1)), 51);
+        CHECKS.due("balance", bench.desk.balance(5), 100);
+        CHECKS.due("30", bench.send(Message.debit(5, 30, 2)), 0);
+        CHECKS.due("balance", bench.desk.balance(5), 70);
+        bench.send(Message.hold(5, 50, 3));
+        CHECKS.due("more than available", bench.send(Message.debit(5, 21, 4)), 51);
+        CHECKS.due("all available", bench.send(Message.debit(5, 20, 5)), 0);
+        CHECKS.due("balance", bench.desk.balance(5), 50);
+        CHECKS.due("available", bench.desk.available(5), 0);
+        CHECKS.due("other card", bench.desk.balance(77), 1000);
+        CHECKS.due("states", bench.states(), "0 0 1 0 0");
+    }
+
+    private static void credits() {
+        Bench bench = bench();
+        CHECKS.due("no such card", bench.send(Message.credit(6, 1, 1)), 14);
+        CHECKS.due("the most", bench.send(Message.credit(5, 999999999999L, 2)), 0);
+        CHECKS.due("once more", bench.send(Message.credit(5, 999999999999L, 3)), 0);
+        CHECKS.due("balance", bench.desk.balance(5), 2000000000098L);
+        CHECKS.due("with 56", bench.send(Message.credit(5, 1, 4).original(2)), 12);
+        CHECKS.due("balance", bench.desk.balance(5), 2000000000098L);
+    }
+
+    private static void completions() {
+        Bench bench = bench();
+        bench.send(Message.hold(5, 60, 1));
+        bench.send(Message.hold(5, 30, 2));
+        CHECKS.due("more than the hold", bench.send(Message.debit(5, 61, 3).original(1)), 51);
+        CHECKS.due("states", bench.states(), "1 1 0");
+        CHECKS.due("balance", bench.desk.balance(5), 100);
+        CHECKS.due("as the hold", bench.send(Message.debit(5, 60, 4).original(1)), 0);
+        CHECKS.due("states", bench.states(), "2 1 0 0");
+        CHECKS.due("balance", bench.desk.balance(5), 40);
+        CHECKS.due("less than the hold", bench.send(Message.debit(5, 10, 5).original(2)), 0);
+        CHECKS.due("states", bench.states(), "2 2 0 0 0");
+        CHECKS.due("balance", bench.desk.balance(5), 30);
+        CHECKS.due("available", bench.desk.available(5), 30);
+        CHECKS.due("completed already", bench.send(Message.debit(5, 10, 6).original(2)), 25);
+    }
+
+    private static void completionsThatFindNoHold() {
+        Bench bench = bench();
+        bench.send(Message.hold(5, 60, 1));
+        bench.send(Message.debit(5, 1, 2));
+        bench.send(Message.hold(5, 600, 3));
+        CHECKS.due("other trace", bench.send(Message.debit(5, 1, 10).original(4)), 25);
+        CHECKS.due("a debit's trace", bench.send(Message.debit(5, 1, 11).original(2)), 25);
+        CHECKS.due("a refused hold", bench.send(Message.debit(5, 1, 12).original(3)), 25);
+        CHECKS.due("other card", bench.send(Message.debit(77, 1, 13).original(1)), 25);
+        CHECKS.due("other terminal",
+            bench.send(Message.debit(5, 1, 14).terminal("ELSE").original(1)), 25);
+        CHECKS.due("25 before 51", bench.send(Message.debit(5, 9999, 15).original(4)), 25);
+        bench.desk.tick(49);
+        CHECKS.due("49 ticks, too much", bench.send(Message.debit(5, 61, 16).original(1)), 51);
+        bench.desk.tick(1);
+        CHECKS.due("50 ticks", bench.send(Message.debit(5, 1, 17).original(1)), 25);
+        bench.send(Message.hold(5, 10, 20));
+        bench.send(Message.reversal(5, 21, 20));
+        CHECKS.due("reversed", bench.send(Message.debit(5, 1, 22).original(20)), 25);
+    }
+
+    /** What completes a hold is measured by the hold alone, even below what is available. */
+    private static void completedHoldsHoldNothing() {
+        Bench bench = bench();
+        bench.send(Message.credit(5, 100, 1));
+        bench.send(Message.hold(5, 200, 2));
+        bench.send(Message.reversal(5, 3, 1));
+        CHECKS.due("available", bench.desk.available(5), -100);
+        CHECKS.due("completed", bench.send(Message.debit(5, 200, 4).original(2)), 0);
+        CHECKS.due("balance", bench.desk.balance(5), -100);
+        CHECKS.due("available", bench.desk.available(5), -100);
+        bench.desk.tick(1000);
+        CHECKS.due("completed long ago", bench.desk.entry(1, 3), 2);
+    }
+}

@@ -1,0 +1,90 @@
+/** Promise 4: requests of type 0500. */
+final class HandleSettlementTest {
+    private static final Checks CHECKS = new Checks();
+
+    public static void main(String[] args) {
+        takesOut();
+        keepsHolds();
+        repeatedAfterTakingOut();
+        noCardIsNeeded();
+        CHECKS.end();
+    }
+
+    private static Bench bench() {
+        Bench bench = new Bench();
+        bench.desk.open(5, 100);
+        return bench;
+    }
+
+    private static void takesOut() {
+        Bench bench = bench();
+        bench.send(Message.debit(5, 30, 1));
+        bench.send(Message.debit(5, 7, 2).terminal("ELSE"));
+        bench.send(Message.credit(5, 4, 3));
+        bench.send(Message.debit(5, 500, 4));
+        bench.send(Message.credit(5, 9, 5));
+        bench.send(Message.reversal(5, 6, 5));
+        bench.send(Message.hold(5, 1, 7).terminal("ELSE"));
+        CHECKS.due("settlement", bench.send(Message.settlement(8)), 0);
+        CHECKS.due("settled", bench.desk.settled(), -26);
+        CHECKS.due("traces", bench.column(1), "2 7 8");
+        CHECKS.due("types", bench.column(0), "200 100 500");
+        CHECKS.due("states", bench.states(), "0 1 0");
+        CHECKS.due("balance", bench.desk.balance(5), 67);
+        CHECKS.due("next settlement", bench.send(Message.settlement(9)), 0);
+        CHECKS.due("traces", bench.column(1), "2 7 9");
+        CHECKS.due("settled", bench.desk.settled(), -26);
+        CHECKS.due("other's settlement", bench.send(Message.settlement(9).terminal("ELSE")), 0);
+        CHECKS.due("traces", bench.column(1), "7 9 9");
+        CHECKS.due("settled", bench.desk.settled(), -33);
+        CHECKS.due("reversal of what is taken out", bench.send(Message.reversal(5, 10, 1)), 25);
+    }
+
+    private static void keepsHolds() {
+        Bench bench = bench();
+        bench.send(Message.hold(5, 1, 1));
+        bench.desk.tick(10);
+        bench.send(Message.hold(5, 2, 2));
+        bench.send(Message.hold(5, 3, 3));
+        bench.send(Message.hold(5, 4, 4));
+        bench.send(Message.debit(5, 2, 5).original(2));
+        bench.send(Message.reversal(5, 6, 3));
+        bench.desk.tick(39);
+        bench.send(Message.settlement(7));
+        CHECKS.due("traces", bench.column(1), "1 4 7");
+        CHECKS.due("settled", bench.desk.settled(), -2);
+        bench.desk.tick(1);
+        bench.send(Message.settlement(8));
+        CHECKS.due("traces", bench.column(1), "4 8");
+        CHECKS.due("completion after it", bench.send(Message.debit(5, 4, 9).original(4)), 0);
+        bench.send(Message.settlement(10));
+        CHECKS.due("traces", bench.column(1), "10");
+        CHECKS.due("settled", bench.desk.settled(), -6);
+        CHECKS.due("available", bench.desk.available(5), 94);
+    }
+
+    /** What is taken out is forgotten: the same request is handled anew. */
+    private static void repeatedAfterTakingOut() {
+        Bench bench = bench();
+        bench.send(Message.debit(5, 30, 1));
+        bench.send(Message.settlement(2));
+        CHECKS.due("the debit again", bench.send(Message.debit(5, 30, 1)), 0);
+        CHECKS.due("balance", bench.desk.balance(5), 40);
+        CHECKS.due("the settlement again", bench.send(Message.settlement(2)), 0);
+        CHECKS.due("traces", bench.column(1), "2 1");
+        CHECKS.due("settled", bench.desk.settled(), -30);
+        CHECKS.due("another settlement", bench.send(Message.settlement(3)), 0);
+        CHECKS.due("traces", bench.column(1), "3");
+        CHECKS.due("settled", bench.desk.settled(), -60);
+        CHECKS.due("the first settlement", bench.send(Message.settlement(2)), 0);
+        CHECKS.due("traces", bench.column(1), "2");
+    }
+
+    private static void noCardIsNeeded() {
+        Bench bench = new Bench();
+        CHECKS.due("no card", bench.send(Message.settlement(0)), 0);
+        CHECKS.due("traces", bench.column(1), "0");
+        CHECKS.due("answers", bench.column(2), "0");
+        CHECKS.due("amount", bench.desk.amount(0), 0);
+    }
+}
