@@ -294,11 +294,11 @@ public final class CardMessageDesk {
         }
 
         int byteAt(int i) {
-            return i >= 0 && i < size && i < bytes.length ? bytes[i] : NONE;
+            return i >= 0 && i < size ? bytes[i] : NONE;
         }
 
         void append(int value) {
-            if (size >= 0 && size < bytes.length) {
+            if (size < bytes.length) {
                 bytes[size] = value & 255;
                 size++;
             }

@@ -11,6 +11,7 @@ final class HandleFormTest {
         unknownFields();
         digits();
         cards();
+        cardsOfAllLengths();
         characters();
         notes();
         originals();
@@ -155,6 +156,17 @@ final class HandleFormTest {
             .terminal("TERM"), FORMAT);
     }
 
+    /** The digit that does not count is in front of the first byte alone. */
+    private static void cardsOfAllLengths() {
+        for (int length = 1; length <= 16; length++) {
+            String digits = "9876543219876543".substring(0, length);
+            Bench bench = new Bench();
+            bench.desk.open(Long.parseLong(digits), 10);
+            CHECKS.due("card " + digits, bench.send(Message.debit(5, 1, 1).cardDigits(digits)), 0);
+            CHECKS.due("balance of " + digits, bench.desk.balance(Long.parseLong(digits)), 9);
+        }
+    }
+
     private static void characters() {
         for (int value = 0; value < 256; value++) {
             int want = value >= 32 && value <= 126 ? 0 : FORMAT;
@@ -205,5 +217,8 @@ final class HandleFormTest {
         CHECKS.due("settled", bench.desk.settled(), 0);
         CHECKS.due("states", bench.states(), "1 0");
         CHECKS.due("IN is empty", bench.desk.feed(0, 1), 1);
+        CHECKS.due("one byte", bench.desk.handle(), FORMAT);
+        CHECKS.due("a request after it", bench.send(Message.debit(5, 20, 3)), 0);
+        CHECKS.due("balance", bench.desk.balance(5), 60);
     }
 }

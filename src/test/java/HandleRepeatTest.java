@@ -103,6 +103,8 @@ final class HandleRepeatTest {
         CHECKS.due("a debit", bench.send(Message.debit(5, 1, 99)), 96);
         CHECKS.due("entries", bench.desk.entries(), 32);
         CHECKS.due("settled", bench.desk.settled(), 0);
+        CHECKS.due("available", bench.desk.available(5), 76);
+        CHECKS.due("net", bench.desk.net(Message.terminalNumber("TERM")), -24);
         CHECKS.due("last entry", bench.desk.entry(31, 0), 500);
         CHECKS.due("no entry", bench.desk.entry(32, 0), -1);
         bench = bench();

@@ -6,6 +6,7 @@ final class HandleSettlementTest {
         takesOut();
         keepsHolds();
         repeatedAfterTakingOut();
+        nothingIsLeftOver();
         noCardIsNeeded();
         CHECKS.end();
     }
@@ -78,6 +79,23 @@ final class HandleSettlementTest {
         CHECKS.due("settled", bench.desk.settled(), -60);
         CHECKS.due("the first settlement", bench.send(Message.settlement(2)), 0);
         CHECKS.due("traces", bench.column(1), "2");
+    }
+
+    /** None of the entries that were taken out is found, summed or reversed any more. */
+    private static void nothingIsLeftOver() {
+        for (int many = 1; many <= 23; many++) {
+            Bench bench = bench();
+            for (int trace = 1; trace <= many; trace++) {
+                bench.send(Message.debit(5, 1, trace));
+            }
+            bench.send(Message.settlement(many));
+            CHECKS.due("entries", bench.desk.entries(), 1);
+            CHECKS.due("net", bench.desk.net(Message.terminalNumber("TERM")), 0);
+            CHECKS.due("reversal", bench.send(Message.reversal(5, 50, 2)), 25);
+            CHECKS.due("reversal", bench.send(Message.reversal(5, 51, 3)), 25);
+            CHECKS.due("reversal", bench.send(Message.reversal(5, 52, many)), 25);
+            CHECKS.due("balance", bench.desk.balance(5), 100 - many);
+        }
     }
 
     private static void noCardIsNeeded() {
