@@ -2,6 +2,20 @@
 final class Bench {
     final CardMessageDesk desk = new CardMessageDesk();
 
+    /** A new desk that has card 5 with a balance of 100. */
+    static Bench withOneCard() {
+        Bench bench = new Bench();
+        bench.desk.open(5, 100);
+        return bench;
+    }
+
+    /** A new desk that has card 77 with a balance of 1000, too. */
+    static Bench withTwoCards() {
+        Bench bench = withOneCard();
+        bench.desk.open(77, 1000);
+        return bench;
+    }
+
     /** Feeds bytes that are written in hexadecimal; the answer of the last feed. */
     int feed(String hex) {
         int answer = 0;

@@ -9,19 +9,13 @@ final class EntryTest {
         CHECKS.end();
     }
 
-    private static Bench bench() {
-        Bench bench = new Bench();
-        bench.desk.open(5, 100);
-        return bench;
-    }
-
     private static void entriesAfter(Bench bench, Message message, int want) {
         bench.send(message);
         CHECKS.due("entries() after " + message.hex(), bench.desk.entries(), want);
     }
 
     private static void whatMakesAnEntry() {
-        Bench bench = bench();
+        Bench bench = Bench.withOneCard();
         entriesAfter(bench, Message.hold(5, 1, 1), 1);
         entriesAfter(bench, Message.hold(6, 1, 2), 2);
         entriesAfter(bench, Message.hold(5, 1, 1), 2);
@@ -37,7 +31,7 @@ final class EntryTest {
     }
 
     private static void whatItHas() {
-        Bench bench = bench();
+        Bench bench = Bench.withOneCard();
         bench.send(Message.hold(5, 60, 999999));
         bench.send(Message.hold(5, 999999999999L, 0));
         bench.send(Message.money("0100", "01", 5, 2, 3));
@@ -66,7 +60,7 @@ final class EntryTest {
     }
 
     private static void outOfBounds() {
-        Bench bench = bench();
+        Bench bench = Bench.withOneCard();
         bench.send(Message.debit(5, 1, 1));
         bench.send(Message.hold(5, 2, 2));
         int[] outside = {-1, 2, 3, 24, 31, 32, 33, Integer.MIN_VALUE, Integer.MAX_VALUE};

@@ -12,30 +12,23 @@ final class HandleMoneyTest {
         CHECKS.end();
     }
 
-    private static Bench bench() {
-        Bench bench = new Bench();
-        bench.desk.open(5, 100);
-        bench.desk.open(77, 1000);
-        return bench;
-    }
-
     private static void sorts() {
         for (int kind = 0; kind < 100; kind++) {
             String digits = String.format("%02d", kind);
             int want = kind == 0 || kind == 20 ? 0 : 12;
-            CHECKS.due("sort " + kind, bench().send(Message.money("0200", digits, 5, 1, 1)), want);
+            CHECKS.due("sort " + kind, Bench.withTwoCards().send(Message.money("0200", digits, 5, 1, 1)), want);
             Message naming = Message.money("0200", digits, 5, 1, 1).original(1);
-            CHECKS.due("sort " + kind + " with 56", bench().send(naming), kind == 0 ? 25 : 12);
+            CHECKS.due("sort " + kind + " with 56", Bench.withTwoCards().send(naming), kind == 0 ? 25 : 12);
         }
-        CHECKS.due("14 before 12", bench().send(Message.money("0200", "01", 6, 1, 1)), 14);
-        CHECKS.due("14 before 25", bench().send(Message.debit(6, 1, 1).original(1)), 14);
-        CHECKS.due("12 before 51", bench().send(Message.money("0200", "01", 5, 101, 1)), 12);
-        CHECKS.due("sort 009999", bench().send(Message.debit(5, 1, 1).sort("009999")), 0);
-        CHECKS.due("sort 209999", bench().send(Message.credit(5, 1, 1).sort("209999")), 0);
+        CHECKS.due("14 before 12", Bench.withTwoCards().send(Message.money("0200", "01", 6, 1, 1)), 14);
+        CHECKS.due("14 before 25", Bench.withTwoCards().send(Message.debit(6, 1, 1).original(1)), 14);
+        CHECKS.due("12 before 51", Bench.withTwoCards().send(Message.money("0200", "01", 5, 101, 1)), 12);
+        CHECKS.due("sort 009999", Bench.withTwoCards().send(Message.debit(5, 1, 1).sort("009999")), 0);
+        CHECKS.due("sort 209999", Bench.withTwoCards().send(Message.credit(5, 1, 1).sort("209999")), 0);
     }
 
     private static void debits() {
-        Bench bench = bench();
+        Bench bench = Bench.withTwoCards();
         CHECKS.due("too much", bench.send(Message.debit(5, 101, 1)), 51);
         CHECKS.due("balance", bench.desk.balance(5), 100);
         CHECKS.due("30", bench.send(Message.debit(5, 30, 2)), 0);
@@ -50,7 +43,7 @@ final class HandleMoneyTest {
     }
 
     private static void credits() {
-        Bench bench = bench();
+        Bench bench = Bench.withTwoCards();
         CHECKS.due("no such card", bench.send(Message.credit(6, 1, 1)), 14);
         CHECKS.due("the most", bench.send(Message.credit(5, 999999999999L, 2)), 0);
         CHECKS.due("once more", bench.send(Message.credit(5, 999999999999L, 3)), 0);
@@ -60,7 +53,7 @@ final class HandleMoneyTest {
     }
 
     private static void completions() {
-        Bench bench = bench();
+        Bench bench = Bench.withTwoCards();
         bench.send(Message.hold(5, 60, 1));
         bench.send(Message.hold(5, 30, 2));
         CHECKS.due("more than the hold", bench.send(Message.debit(5, 61, 3).original(1)), 51);
@@ -77,7 +70,7 @@ final class HandleMoneyTest {
     }
 
     private static void completionsThatFindNoHold() {
-        Bench bench = bench();
+        Bench bench = Bench.withTwoCards();
         bench.send(Message.hold(5, 60, 1));
         bench.send(Message.debit(5, 1, 2));
         bench.send(Message.hold(5, 600, 3));
@@ -99,7 +92,7 @@ final class HandleMoneyTest {
 
     /** What completes a hold is measured by the hold alone, even below what is available. */
     private static void completedHoldsHoldNothing() {
-        Bench bench = bench();
+        Bench bench = Bench.withTwoCards();
         bench.send(Message.credit(5, 100, 1));
         bench.send(Message.hold(5, 200, 2));
         bench.send(Message.reversal(5, 3, 1));

@@ -11,15 +11,8 @@ final class HandleRepeatTest {
         CHECKS.end();
     }
 
-    private static Bench bench() {
-        Bench bench = new Bench();
-        bench.desk.open(5, 100);
-        bench.desk.open(77, 1000);
-        return bench;
-    }
-
     private static void sameAnswer() {
-        Bench bench = bench();
+        Bench bench = Bench.withTwoCards();
         Message[] messages = {Message.debit(5, 60, 1), Message.debit(5, 41, 2),
             Message.hold(6, 1, 3), Message.money("0100", "01", 5, 1, 4), Message.reversal(5, 5, 9),
             Message.hold(5, 10, 6), Message.reversal(5, 7, 6)};
@@ -41,7 +34,7 @@ final class HandleRepeatTest {
     }
 
     private static void whatMakesThemTheSame() {
-        Bench bench = bench();
+        Bench bench = Bench.withTwoCards();
         bench.send(Message.debit(5, 60, 1));
         CHECKS.due("other card and amount", bench.send(Message.debit(77, 7, 1)), 0);
         CHECKS.due("other sort", bench.send(Message.credit(5, 7, 1)), 0);
@@ -56,7 +49,7 @@ final class HandleRepeatTest {
     }
 
     private static void otherTypes() {
-        Bench bench = bench();
+        Bench bench = Bench.withTwoCards();
         bench.send(Message.debit(5, 60, 1));
         for (String type : new String[] {"0000", "0101", "0201", "0300", "0600", "9909"}) {
             CHECKS.due(type, bench.send(Message.money(type, "00", 5, 1, 1)), 12);
@@ -73,7 +66,7 @@ final class HandleRepeatTest {
     }
 
     private static void fullAt24() {
-        Bench bench = bench();
+        Bench bench = Bench.withTwoCards();
         fill(bench, 23);
         CHECKS.due("the 24th", bench.send(Message.hold(5, 1, 23)), 0);
         CHECKS.due("the 25th, a debit", bench.send(Message.debit(5, 1, 24)), 96);
@@ -91,7 +84,7 @@ final class HandleRepeatTest {
     }
 
     private static void settlementsUpTo32() {
-        Bench bench = bench();
+        Bench bench = Bench.withTwoCards();
         fill(bench, 24);
         for (int k = 0; k < 8; k++) {
             CHECKS.due("settlement " + k, bench.send(Message.settlement(1).terminal("SET" + k)), 0);
@@ -107,7 +100,7 @@ final class HandleRepeatTest {
         CHECKS.due("net", bench.desk.net(Message.terminalNumber("TERM")), -24);
         CHECKS.due("last entry", bench.desk.entry(31, 0), 500);
         CHECKS.due("no entry", bench.desk.entry(32, 0), -1);
-        bench = bench();
+        bench = Bench.withTwoCards();
         fill(bench, 24);
         for (int k = 0; k < 7; k++) {
             bench.send(Message.settlement(1).terminal("SET" + k));

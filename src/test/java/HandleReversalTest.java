@@ -11,15 +11,8 @@ final class HandleReversalTest {
         CHECKS.end();
     }
 
-    private static Bench bench() {
-        Bench bench = new Bench();
-        bench.desk.open(5, 100);
-        bench.desk.open(77, 1000);
-        return bench;
-    }
-
     private static void eachKind() {
-        Bench bench = bench();
+        Bench bench = Bench.withTwoCards();
         bench.send(Message.debit(5, 30, 1));
         bench.send(Message.credit(5, 8, 2));
         bench.send(Message.hold(5, 50, 3));
@@ -41,7 +34,7 @@ final class HandleReversalTest {
     }
 
     private static void notFound() {
-        Bench bench = bench();
+        Bench bench = Bench.withTwoCards();
         bench.send(Message.debit(5, 30, 1));
         bench.send(Message.debit(5, 300, 2));
         bench.send(Message.hold(5, 300, 3));
@@ -59,14 +52,14 @@ final class HandleReversalTest {
     }
 
     private static void lastOneFirst() {
-        Bench bench = bench();
+        Bench bench = Bench.withTwoCards();
         bench.send(Message.hold(5, 10, 1));
         bench.send(Message.debit(5, 20, 1));
         CHECKS.due("first", bench.send(Message.reversal(5, 2, 1)), 0);
         CHECKS.due("states", bench.states(), "1 3 0");
         CHECKS.due("second", bench.send(Message.reversal(5, 3, 1)), 0);
         CHECKS.due("states", bench.states(), "3 3 0 0");
-        bench = bench();
+        bench = Bench.withTwoCards();
         bench.send(Message.credit(5, 20, 1));
         bench.send(Message.hold(5, 10, 1));
         CHECKS.due("first", bench.send(Message.reversal(5, 2, 1)), 0);
@@ -78,7 +71,7 @@ final class HandleReversalTest {
     }
 
     private static void completedHold() {
-        Bench bench = bench();
+        Bench bench = Bench.withTwoCards();
         bench.send(Message.hold(5, 60, 1));
         bench.send(Message.debit(5, 40, 2).original(1));
         CHECKS.due("the hold", bench.send(Message.reversal(5, 3, 1)), 25);
@@ -90,7 +83,7 @@ final class HandleReversalTest {
     }
 
     private static void timeAndHolds() {
-        Bench bench = bench();
+        Bench bench = Bench.withTwoCards();
         bench.send(Message.hold(5, 10, 1));
         bench.send(Message.debit(5, 20, 2));
         bench.send(Message.debit(5, 30, 3));

@@ -11,14 +11,8 @@ final class HandleSettlementTest {
         CHECKS.end();
     }
 
-    private static Bench bench() {
-        Bench bench = new Bench();
-        bench.desk.open(5, 100);
-        return bench;
-    }
-
     private static void takesOut() {
-        Bench bench = bench();
+        Bench bench = Bench.withOneCard();
         bench.send(Message.debit(5, 30, 1));
         bench.send(Message.debit(5, 7, 2).terminal("ELSE"));
         bench.send(Message.credit(5, 4, 3));
@@ -42,7 +36,7 @@ final class HandleSettlementTest {
     }
 
     private static void keepsHolds() {
-        Bench bench = bench();
+        Bench bench = Bench.withOneCard();
         bench.send(Message.hold(5, 1, 1));
         bench.desk.tick(10);
         bench.send(Message.hold(5, 2, 2));
@@ -66,7 +60,7 @@ final class HandleSettlementTest {
 
     /** What is taken out is forgotten: the same request is handled anew. */
     private static void repeatedAfterTakingOut() {
-        Bench bench = bench();
+        Bench bench = Bench.withOneCard();
         bench.send(Message.debit(5, 30, 1));
         bench.send(Message.settlement(2));
         CHECKS.due("the debit again", bench.send(Message.debit(5, 30, 1)), 0);
@@ -84,7 +78,7 @@ final class HandleSettlementTest {
     /** None of the entries that were taken out is found, summed or reversed any more. */
     private static void nothingIsLeftOver() {
         for (int many = 1; many <= 23; many++) {
-            Bench bench = bench();
+            Bench bench = Bench.withOneCard();
             for (int trace = 1; trace <= many; trace++) {
                 bench.send(Message.debit(5, 1, trace));
             }

@@ -12,12 +12,6 @@ final class ReplyTest {
         CHECKS.end();
     }
 
-    private static Bench bench() {
-        Bench bench = new Bench();
-        bench.desk.open(5, 100);
-        return bench;
-    }
-
     private static void due(String what, Bench bench, Message sent, Message reply) {
         bench.send(sent);
         CHECKS.due(what, bench.reply(), reply.hex());
@@ -28,7 +22,7 @@ final class ReplyTest {
     }
 
     private static void everyType() {
-        Bench bench = bench();
+        Bench bench = Bench.withOneCard();
         due("0100", bench, Message.hold(5, 10, 1),
             answered(Message.money("0110", "00", 5, 10, 1), 0));
         due("0100 refused", bench, Message.hold(5, 91, 2),
@@ -49,7 +43,7 @@ final class ReplyTest {
     }
 
     private static void fieldsAsTheyAre() {
-        Bench bench = bench();
+        Bench bench = Bench.withOneCard();
         due("zeros before the card", bench, Message.hold(5, 1, 1).cardDigits("0000005"),
             answered(Message.money("0110", "00", 5, 1, 1).cardDigits("0000005"), 0));
         CHECKS.due("it is card 5", bench.desk.available(5), 99);
@@ -61,20 +55,20 @@ final class ReplyTest {
     }
 
     private static void otherTypes() {
-        due("0800", bench(), new Message("0800").trace(1).terminal("TERM"),
+        due("0800", Bench.withOneCard(), new Message("0800").trace(1).terminal("TERM"),
             answered(new Message("0810").trace(1).terminal("TERM"), 12));
-        due("9909 with all", bench(), Message.money("9909", "00", 5, 7, 1).note("n").original(3),
+        due("9909 with all", Bench.withOneCard(), Message.money("9909", "00", 5, 7, 1).note("n").original(3),
             answered(Message.money("9919", "00", 5, 7, 1), 12));
-        due("0000 with an amount", bench(),
+        due("0000 with an amount", Bench.withOneCard(),
             new Message("0000").amount(123456789012L).trace(1).terminal("TERM"),
             answered(new Message("0010").amount(123456789012L).trace(1).terminal("TERM"), 12));
-        due("0301 with a sort", bench(), new Message("0301").sort("987654").trace(1)
+        due("0301 with a sort", Bench.withOneCard(), new Message("0301").sort("987654").trace(1)
             .terminal("TERM").original(4),
             answered(new Message("0311").sort("987654").trace(1).terminal("TERM"), 12));
     }
 
     private static void settlements() {
-        Bench bench = bench();
+        Bench bench = Bench.withOneCard();
         due("nothing", bench, Message.settlement(1),
             answered(new Message("0510").amount(0).trace(1).terminal("TERM"), 0));
         bench.send(Message.debit(5, 30, 2));
@@ -96,7 +90,7 @@ final class ReplyTest {
     }
 
     private static void lastTwelveDigits() {
-        Bench bench = bench();
+        Bench bench = Bench.withOneCard();
         bench.send(Message.credit(5, 999999999999L, 1));
         bench.send(Message.credit(5, 999999999999L, 2));
         bench.send(Message.credit(5, 5, 3));
@@ -110,7 +104,7 @@ final class ReplyTest {
     }
 
     private static void whichReply() {
-        Bench bench = bench();
+        Bench bench = Bench.withOneCard();
         bench.send(Message.settlement(1));
         String reply = bench.reply();
         CHECKS.due("length", reply.length() / 2, 25);

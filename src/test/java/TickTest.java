@@ -10,14 +10,8 @@ final class TickTest {
         CHECKS.end();
     }
 
-    private static Bench bench() {
-        Bench bench = new Bench();
-        bench.desk.open(5, 100);
-        return bench;
-    }
-
     private static void bounds() {
-        Bench bench = bench();
+        Bench bench = Bench.withOneCard();
         bench.send(Message.hold(5, 10, 1));
         int[] refused = {-1, 1001, -1000, -50, Integer.MIN_VALUE, Integer.MAX_VALUE};
         for (int n : refused) {
@@ -36,7 +30,7 @@ final class TickTest {
 
     private static void fiftyTicks() {
         for (int n = 0; n <= 60; n++) {
-            Bench bench = bench();
+            Bench bench = Bench.withOneCard();
             bench.desk.tick(777);
             bench.send(Message.hold(5, 10, 1));
             bench.desk.tick(n);
@@ -46,7 +40,7 @@ final class TickTest {
     }
 
     private static void ticksAddUp() {
-        Bench bench = bench();
+        Bench bench = Bench.withOneCard();
         for (int i = 0; i < 200; i++) {
             bench.desk.tick(1000);
         }
@@ -60,7 +54,7 @@ final class TickTest {
     }
 
     private static void eachHoldHasItsOwnTime() {
-        Bench bench = bench();
+        Bench bench = Bench.withOneCard();
         bench.send(Message.hold(5, 1, 1));
         bench.desk.tick(20);
         bench.send(Message.hold(5, 2, 2));
