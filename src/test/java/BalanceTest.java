@@ -1,10 +1,8 @@
 /** Promises 7 and 8: balance and available. */
 final class BalanceTest {
     private static final Checks CHECKS = new Checks();
-    private static final long MISSING = -1099511627776L;
 
     public static void main(String[] args) {
-        missingCards();
         afterEachRequest();
         holdsOfOneCard();
         CHECKS.end();
@@ -13,17 +11,6 @@ final class BalanceTest {
     private static void due(String when, Bench bench, long card, long balance, long available) {
         CHECKS.due("balance " + when, bench.desk.balance(card), balance);
         CHECKS.due("available " + when, bench.desk.available(card), available);
-    }
-
-    private static void missingCards() {
-        Bench bench = new Bench();
-        bench.desk.open(5, 100);
-        long[] missing = {0, -1, 4, 6, 50, 5L + (1L << 32), 10000000000000000L, Long.MIN_VALUE,
-            Long.MAX_VALUE};
-        for (long card : missing) {
-            due("of " + card, bench, card, MISSING, MISSING);
-        }
-        due("of 5", bench, 5, 100, 100);
     }
 
     private static void afterEachRequest() {
@@ -66,13 +53,5 @@ final class BalanceTest {
         bench.desk.tick(50);
         due("of 5 later", bench, 5, 100, 100);
         due("of the other later", bench, 9999999999999999L, 200, 200);
-        // Two credits taken back after the money is spent lead below 0.
-        bench.send(Message.credit(5, 999999999999L, 10));
-        bench.send(Message.credit(5, 999999999999L, 11));
-        bench.send(Message.debit(5, 999999999999L, 12));
-        bench.send(Message.debit(5, 999999999999L, 13));
-        bench.send(Message.reversal(5, 14, 10));
-        bench.send(Message.reversal(5, 15, 11));
-        due("below 0", bench, 5, 100 - 1999999999998L, 100 - 1999999999998L);
     }
 }

@@ -2,12 +2,32 @@
 final class Checks {
     private int wrong = 0;
     private int asked = 0;
+    private String words = "";
+    private int askedBefore = -1;
+
+    /** From here on the answers are about these words of the document. */
+    void about(String next) {
+        endWords();
+        words = "'" + next + "': ";
+        askedBefore = asked;
+    }
+
+    /** Words about which nothing is asked are not tested. */
+    private void endWords() {
+        if (asked == askedBefore) {
+            tellWrong("nothing was asked");
+        }
+    }
+
+    private void tellWrong(String what) {
+        wrong++;
+        System.out.println(words + what);
+    }
 
     void due(String call, long got, long want) {
         asked++;
         if (got != want) {
-            wrong++;
-            System.out.println(call + " answered " + got + ", due is " + want);
+            tellWrong(call + " answered " + got + ", due is " + want);
         }
     }
 
@@ -18,8 +38,7 @@ final class Checks {
     void due(String call, String got, String want) {
         asked++;
         if (!got.equals(want)) {
-            wrong++;
-            System.out.println(call + " answered " + got + ", due is " + want);
+            tellWrong(call + " answered " + got + ", due is " + want);
         }
     }
 
@@ -29,6 +48,7 @@ final class Checks {
 
     /** Ends the test: with exit code 1 if an answer was wrong, or if nothing was asked. */
     void end() {
+        endWords();
         if (wrong != 0 || asked == 0) {
             System.out.println(wrong + " of " + asked + " answers are not as due");
             System.exit(1);

@@ -5,7 +5,6 @@ final class EntryTest {
     public static void main(String[] args) {
         whatMakesAnEntry();
         whatItHas();
-        outOfBounds();
         CHECKS.end();
     }
 
@@ -50,34 +49,5 @@ final class EntryTest {
         for (int k = 0; k < amounts.length; k++) {
             CHECKS.due("amount(" + k + ")", bench.desk.amount(k), amounts[k]);
         }
-    }
-
-    private static void none(Bench bench, int k) {
-        CHECKS.due("amount(" + k + ")", bench.desk.amount(k), -1);
-        for (int what = 0; what <= 3; what++) {
-            CHECKS.due("entry(" + k + ", " + what + ")", bench.desk.entry(k, what), -1);
-        }
-    }
-
-    private static void outOfBounds() {
-        Bench bench = Bench.withOneCard();
-        bench.send(Message.debit(5, 1, 1));
-        bench.send(Message.hold(5, 2, 2));
-        int[] outside = {-1, 2, 3, 24, 31, 32, 33, Integer.MIN_VALUE, Integer.MAX_VALUE};
-        for (int k : outside) {
-            none(bench, k);
-        }
-        int[] nothing = {-1, 4, 5, 100, Integer.MIN_VALUE, Integer.MAX_VALUE};
-        for (int what : nothing) {
-            CHECKS.due("entry(0, " + what + ")", bench.desk.entry(0, what), -1);
-            CHECKS.due("entry(9, " + what + ")", bench.desk.entry(9, what), -1);
-        }
-        // What has been taken out is no entry any more.
-        bench.send(Message.debit(5, 3, 3));
-        bench.send(Message.settlement(4));
-        CHECKS.due("traces", bench.column(1), "2 4");
-        none(bench, 2);
-        CHECKS.due("amount(0)", bench.desk.amount(0), 2);
-        CHECKS.due("amount(1)", bench.desk.amount(1), 0);
     }
 }

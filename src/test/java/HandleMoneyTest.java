@@ -4,6 +4,7 @@ final class HandleMoneyTest {
 
     public static void main(String[] args) {
         sorts();
+        orderOfAnswers();
         debits();
         credits();
         completions();
@@ -12,22 +13,35 @@ final class HandleMoneyTest {
         CHECKS.end();
     }
 
+    private static void due(String what, Message message, int want) {
+        CHECKS.due(what, Bench.withTwoCards().send(message), want);
+    }
+
     private static void sorts() {
+        due("a debit", Message.debit(5, 1, 1).sort("009999"), 0);
+        due("a credit", Message.credit(5, 1, 1).sort("209999"), 0);
+        due("neither", Message.money("0200", "01", 5, 1, 1), 12);
         for (int kind = 0; kind < 100; kind++) {
             String digits = String.format("%02d", kind);
-            int want = kind == 0 || kind == 20 ? 0 : 12;
-            CHECKS.due("sort " + kind, Bench.withTwoCards().send(Message.money("0200", digits, 5, 1, 1)), want);
-            Message naming = Message.money("0200", digits, 5, 1, 1).original(1);
-            CHECKS.due("sort " + kind + " with 56", Bench.withTwoCards().send(naming), kind == 0 ? 25 : 12);
+            due("sort " + kind + " with 56", Message.money("0200", digits, 5, 1, 1).original(1),
+                kind == 0 ? 25 : 12);
         }
-        CHECKS.due("14 before 12", Bench.withTwoCards().send(Message.money("0200", "01", 6, 1, 1)), 14);
-        CHECKS.due("14 before 25", Bench.withTwoCards().send(Message.debit(6, 1, 1).original(1)), 14);
-        CHECKS.due("12 before 51", Bench.withTwoCards().send(Message.money("0200", "01", 5, 101, 1)), 12);
-        CHECKS.due("sort 009999", Bench.withTwoCards().send(Message.debit(5, 1, 1).sort("009999")), 0);
-        CHECKS.due("sort 209999", Bench.withTwoCards().send(Message.credit(5, 1, 1).sort("209999")), 0);
+    }
+
+    private static void orderOfAnswers() {
+        CHECKS.about("which is the first of these that is so");
+        due("14 before 12", Message.money("0200", "01", 6, 1, 1), 14);
+        due("14 before 12 for field 56", Message.credit(6, 1, 1).original(1), 14);
+        due("14 before 25", Message.debit(6, 1, 1).original(1), 14);
+        due("14 before 51", Message.debit(6, 2000, 1), 14);
+        due("12 before 25", Message.money("0200", "01", 5, 1, 1).original(1), 12);
+        due("12 before 51", Message.money("0200", "01", 5, 101, 1), 12);
+        due("25 before 51", Message.debit(5, 2000, 1).original(1), 25);
+        due("a reversal, 14 before 25", Message.reversal(6, 1, 1), 14);
     }
 
     private static void debits() {
+        CHECKS.about("A debit without it: 51 the amount is more than what is available");
         Bench bench = Bench.withTwoCards();
         CHECKS.due("too much", bench.send(Message.debit(5, 101, 1)), 51);
         CHECKS.due("balance", bench.desk.balance(5), 100);
@@ -43,6 +57,7 @@ final class HandleMoneyTest {
     }
 
     private static void credits() {
+        CHECKS.about("A credit: 0, and the amount is added to the balance");
         Bench bench = Bench.withTwoCards();
         CHECKS.due("no such card", bench.send(Message.credit(6, 1, 1)), 14);
         CHECKS.due("the most", bench.send(Message.credit(5, 999999999999L, 2)), 0);
@@ -53,6 +68,7 @@ final class HandleMoneyTest {
     }
 
     private static void completions() {
+        CHECKS.about("0, the hold is completed, and the amount is taken from the balance");
         Bench bench = Bench.withTwoCards();
         bench.send(Message.hold(5, 60, 1));
         bench.send(Message.hold(5, 30, 2));
@@ -70,6 +86,7 @@ final class HandleMoneyTest {
     }
 
     private static void completionsThatFindNoHold() {
+        CHECKS.about("25 there is no hold with that trace of the same terminal and card");
         Bench bench = Bench.withTwoCards();
         bench.send(Message.hold(5, 60, 1));
         bench.send(Message.debit(5, 1, 2));
@@ -92,6 +109,7 @@ final class HandleMoneyTest {
 
     /** What completes a hold is measured by the hold alone, even below what is available. */
     private static void completedHoldsHoldNothing() {
+        CHECKS.about("type 0100 it is a HOLD of its amount until it is COMPLETED or REVERSED");
         Bench bench = Bench.withTwoCards();
         bench.send(Message.credit(5, 100, 1));
         bench.send(Message.hold(5, 200, 2));

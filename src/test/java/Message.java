@@ -1,3 +1,5 @@
+import java.util.ArrayList;
+import java.util.List;
 import java.util.Map;
 import java.util.TreeMap;
 
@@ -90,6 +92,43 @@ final class Message {
     /** The four characters of a terminal as net takes them. */
     static int terminalNumber(String characters) {
         return (int) Long.parseLong(hexOf(characters), 16);
+    }
+
+    /** Where in hex() a digit stands, and not the map or a character. */
+    List<Integer> digitPlaces() {
+        List<Integer> places = new ArrayList<>();
+        addPlaces(places, 0, 4);
+        int start = 20;
+        for (Map.Entry<Integer, String> field : fields.entrySet()) {
+            int length = field.getValue().length();
+            addPlaces(places, start, start + digitsOf(field.getKey(), length));
+            start += length;
+        }
+        return places;
+    }
+
+    /** Where in hex() the byte of a character begins. */
+    List<Integer> characterPlaces() {
+        List<Integer> places = new ArrayList<>();
+        int start = 20;
+        for (Map.Entry<Integer, String> field : fields.entrySet()) {
+            int length = field.getValue().length();
+            for (int place = digitsOf(field.getKey(), length); place < length; place += 2) {
+                places.add(start + place);
+            }
+            start += length;
+        }
+        return places;
+    }
+
+    private static int digitsOf(int field, int length) {
+        return field == 41 ? 0 : field == 48 ? 4 : length;
+    }
+
+    private static void addPlaces(List<Integer> places, int start, int end) {
+        for (int place = start; place < end; place++) {
+            places.add(place);
+        }
     }
 
     String hex() {

@@ -5,7 +5,6 @@ final class NetTest {
 
     public static void main(String[] args) {
         whatCounts();
-        whichTerminal();
         sumOfNets();
         CHECKS.end();
     }
@@ -39,26 +38,6 @@ final class NetTest {
         netAfter(bench, Message.debit(5, 3, 1).terminal("ELSE"), -20);
         netAfter(bench, Message.settlement(12), 0);
         netAfter(bench, Message.credit(5, 9, 13), 9);
-    }
-
-    private static void whichTerminal() {
-        Bench bench = bench();
-        bench.send(Message.debit(5, 1, 1).terminal("ABCD"));
-        bench.send(Message.debit(5, 2, 1).terminal("DCBA"));
-        bench.send(Message.debit(5, 4, 1).terminal("    "));
-        bench.send(Message.debit(5, 8, 1).terminal("~~~~"));
-        bench.send(Message.debit(5, 16, 1).terminal("ABCE"));
-        bench.send(Message.debit(5, 32, 1).terminal("BBCD"));
-        CHECKS.due("net(ABCD)", bench.desk.net(0x41424344), -1);
-        CHECKS.due("net(DCBA)", bench.desk.net(0x44434241), -2);
-        CHECKS.due("net(spaces)", bench.desk.net(0x20202020), -4);
-        CHECKS.due("net(~~~~)", bench.desk.net(0x7e7e7e7e), -8);
-        CHECKS.due("net(ABCE)", bench.desk.net(0x41424345), -16);
-        CHECKS.due("net(BBCD)", bench.desk.net(0x42424344), -32);
-        int[] strange = {0, -1, 1, 0x414243, 0xc1424344, Integer.MIN_VALUE, Integer.MAX_VALUE};
-        for (int terminal : strange) {
-            CHECKS.due("net(" + terminal + ")", bench.desk.net(terminal), 0);
-        }
     }
 
     private static void sumOfNets() {

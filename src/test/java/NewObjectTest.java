@@ -55,9 +55,9 @@ final class NewObjectTest {
         CHECKS.due("settled()", desk.settled(), 0);
         CHECKS.due("net(TERM)", desk.net(Message.terminalNumber("TERM")), 0);
         CHECKS.due("net(0)", desk.net(0), 0);
-        CHECKS.due("balance(0)", desk.balance(0), -1099511627776L);
-        CHECKS.due("balance(1)", desk.balance(1), -1099511627776L);
-        CHECKS.due("available(0)", desk.available(0), -1099511627776L);
+        CHECKS.due("balance(0)", desk.balance(0), Bench.MISSING);
+        CHECKS.due("balance(1)", desk.balance(1), Bench.MISSING);
+        CHECKS.due("available(0)", desk.available(0), Bench.MISSING);
         CHECKS.due("amount(0)", desk.amount(0), -1);
         for (int what = 0; what < 4; what++) {
             CHECKS.due("entry(0, " + what + ")", desk.entry(0, what), -1);
@@ -74,7 +74,7 @@ final class NewObjectTest {
         one.desk.open(5, 100);
         one.send(Message.debit(5, 30, 1));
         one.feed("0100");
-        CHECKS.due("balance of the other", other.desk.balance(5), -1099511627776L);
+        CHECKS.due("balance of the other", other.desk.balance(5), Bench.MISSING);
         CHECKS.due("entries of the other", other.desk.entries(), 0);
         CHECKS.due("reply of the other", other.reply(), "");
         CHECKS.due("feed of the other", other.desk.feed(1, 1), 1);

@@ -3,14 +3,18 @@ import java.util.TreeMap;
 
 /** All promises: the program and PlainDesk give the same answers in long runs of drawn calls. */
 final class PlainDeskTest {
-    private static final int RUNS = 1500;
+    private static final int RUNS = 4000;
+    /** The document promises nothing after so many calls of one object. */
     private static final int CALLS = 512;
+    private static final int CALLS_OF_A_MESSAGE = 15;
+    private static final int CALLS_OF_THE_LAST_LOOK = 160;
     private static final long[] CARDS = {5, 77, 1234, 9999999999999999L, 6, 42, 100001, 8};
     private static final String[] TERMINALS = {"TERM", "ELSE", " ~A0"};
     private static final String[] TYPES = {"0100", "0100", "0200", "0200", "0200", "0400", "0400",
         "0500", "0800", "0101"};
     private static final Checks CHECKS = new Checks();
     private static final TreeMap<Integer, Integer> ANSWERS = new TreeMap<>();
+    private static int fullJournals = 0;
 
     private final Random random;
     private final String name;
@@ -18,6 +22,7 @@ final class PlainDeskTest {
     private final PlainDesk plain = new PlainDesk();
     private final boolean manyTerminals;
     private final boolean seldomSettled;
+    private final boolean filled;
     private int calls = 0;
 
     private PlainDeskTest(int run) {
@@ -25,6 +30,7 @@ final class PlainDeskTest {
         name = "run " + run;
         manyTerminals = run % 3 == 0;
         seldomSettled = run % 2 == 0;
+        filled = run % 5 == 0;
     }
 
     public static void main(String[] args) {
@@ -32,7 +38,9 @@ final class PlainDeskTest {
             new PlainDeskTest(run).run();
         }
         // Runs that never meet an answer would compare nothing there.
-        System.out.println("how often each answer was met: " + ANSWERS);
+        System.out.println("how often each answer was met: " + ANSWERS
+            + ", and a journal of 32 at the end: " + fullJournals);
+        CHECKS.due("a journal of 32 is met", fullJournals > 100, true);
         for (int answer : new int[] {0, 12, 14, 25, 30, 51, 96}) {
             CHECKS.due("answer " + answer + " is met", ANSWERS.getOrDefault(answer, 0) > 500, true);
         }
@@ -40,24 +48,29 @@ final class PlainDeskTest {
     }
 
     private void run() {
-        for (int i = random.nextInt(6); i > 0; i--) {
+        int end = CALLS - CALLS_OF_THE_LAST_LOOK - CALLS_OF_A_MESSAGE;
+        if (random.nextInt(4) == 0) {
+            end = random.nextInt(end);
+        }
+        for (int i = random.nextInt(12); i > 0; i--) {
             open();
         }
-        while (calls < CALLS - 60 && CHECKS.wrong() < 20) {
-            int kind = random.nextInt(20);
-            if (kind < 12) {
+        while (calls < end && CHECKS.wrong() < 20) {
+            int kind = random.nextInt(24);
+            if (kind < 20) {
                 send(drawnMessage());
-            } else if (kind < 14) {
+            } else if (kind == 20) {
                 open();
-            } else if (kind == 14) {
+            } else if (kind == 21) {
                 tick();
-            } else if (kind == 15) {
+            } else if (kind == 22) {
                 feed(random.nextLong(), random.nextInt(12) - 1);
             } else {
                 look();
             }
         }
         lookAtAll();
+        CHECKS.due(name + " has at most 512 calls", calls <= CALLS, true);
     }
 
     private void due(String call, long got, long want) {
@@ -70,8 +83,18 @@ final class PlainDeskTest {
     }
 
     private String drawnTerminal() {
-        return manyTerminals && random.nextInt(3) == 0 ? "ST" + (10 + random.nextInt(20))
+        boolean one = filled && plain.entries() >= 24 || manyTerminals && random.nextInt(3) == 0;
+        return one && random.nextInt(20) != 0 ? "ST" + (10 + random.nextInt(20))
             : TERMINALS[random.nextInt(TERMINALS.length)];
+    }
+
+    private String drawnType() {
+        String type = TYPES[random.nextInt(TYPES.length)];
+        if (filled) {
+            boolean full = plain.entries() >= 24 && random.nextInt(4) != 0;
+            return full ? "0500" : type.equals("0500") ? "0200" : type;
+        }
+        return type.equals("0500") && seldomSettled && random.nextInt(4) != 0 ? "0200" : type;
     }
 
     private long drawnAmount() {
@@ -88,14 +111,9 @@ final class PlainDeskTest {
     }
 
     private Message drawnMessage() {
-        String type = TYPES[random.nextInt(TYPES.length)];
-        if (type.equals("0500") && seldomSettled && random.nextInt(4) != 0) {
-            type = "0200";
-        }
-        if (manyTerminals && seldomSettled && random.nextInt(4) == 0) {
-            type = "0500";
-        }
-        Message message = new Message(type).trace(random.nextInt(12)).terminal(drawnTerminal());
+        String type = drawnType();
+        Message message = new Message(type).trace(random.nextInt(filled ? 40 : 12))
+            .terminal(drawnTerminal());
         boolean money = type.equals("0100") || type.equals("0200");
         boolean other = type.equals("0800") || type.equals("0101");
         if (money || type.equals("0400") || other && random.nextBoolean()) {
@@ -144,10 +162,7 @@ final class PlainDeskTest {
         int want = plain.handle();
         ANSWERS.merge(want, 1, Integer::sum);
         due("handle() of " + hex, desk.handle(), want);
-        for (int i = -1; i < 39; i++) {
-            CHECKS.due(name + " reply(" + i + ") to " + hex, desk.reply(i), plain.reply(i));
-        }
-        lookAtAll();
+        look();
     }
 
     private void feed(long bytes, int n) {
@@ -166,37 +181,68 @@ final class PlainDeskTest {
         due("tick(" + n + ")", desk.tick(n) ? 1 : 0, plain.tick(n) ? 1 : 0);
     }
 
+    /** Looks at one thing that is drawn. */
     private void look() {
         int k = random.nextInt(40) - 3;
-        int what = random.nextInt(7) - 1;
-        due("entry(" + k + ", " + what + ")", desk.entry(k, what), plain.entry(k, what));
-        due("amount(" + k + ")", desk.amount(k), plain.amount(k));
+        switch (random.nextInt(8)) {
+            case 0:
+                lookAtCard(drawnCard());
+                break;
+            case 1:
+                due("amount(" + k + ")", desk.amount(k), plain.amount(k));
+                break;
+            case 2:
+                lookAtNet(drawnTerminal());
+                break;
+            case 3:
+                due("settled()", desk.settled(), plain.settled());
+                break;
+            case 4:
+                due("entries()", desk.entries(), plain.entries());
+                break;
+            case 5:
+                int what = random.nextInt(7) - 1;
+                due("entry(" + k + ", " + what + ")", desk.entry(k, what), plain.entry(k, what));
+                break;
+            default:
+                due("reply(" + k + ")", desk.reply(k), plain.reply(k));
+                break;
+        }
     }
 
-    /**
-     * Looking changes nothing, so these calls are not counted: the document promises nothing after
-     * 512 calls, but this program does not count them either.
-     */
+    private void lookAtCard(long card) {
+        long balance = plain.balance(card);
+        due("balance(" + card + ")", desk.balance(card), balance);
+        due("available(" + card + ")", desk.available(card), plain.available(card));
+    }
+
+    private void lookAtNet(String terminal) {
+        int number = Message.terminalNumber(terminal);
+        due("net(" + number + ")", desk.net(number), plain.net(number));
+    }
+
+    /** Looks at all cards and terminals, the whole reply, and two columns of the journal. */
     private void lookAtAll() {
         for (long card : CARDS) {
-            if (plain.balance(card) != -(1L << 40)) {
-                CHECKS.due(name + " available(" + card + ")", desk.available(card),
-                    plain.available(card));
-            }
-            CHECKS.due(name + " balance(" + card + ")", desk.balance(card), plain.balance(card));
-        }
-        CHECKS.due(name + " entries()", desk.entries(), plain.entries());
-        for (int k = 0; k < plain.entries(); k++) {
-            for (int what = 0; what < 4; what++) {
-                CHECKS.due(name + " entry(" + k + ", " + what + ")", desk.entry(k, what),
-                    plain.entry(k, what));
-            }
-            CHECKS.due(name + " amount(" + k + ")", desk.amount(k), plain.amount(k));
+            lookAtCard(card);
         }
         for (String terminal : TERMINALS) {
-            int number = Message.terminalNumber(terminal);
-            CHECKS.due(name + " net(" + number + ")", desk.net(number), plain.net(number));
+            lookAtNet(terminal);
         }
-        CHECKS.due(name + " settled()", desk.settled(), plain.settled());
+        due("settled()", desk.settled(), plain.settled());
+        for (int i = -1; i < 39; i++) {
+            due("reply(" + i + ")", desk.reply(i), plain.reply(i));
+        }
+        due("entries()", desk.entries(), plain.entries());
+        fullJournals += plain.entries() == 32 ? 1 : 0;
+        int what = random.nextInt(4);
+        for (int k = -1; k <= plain.entries(); k++) {
+            due("entry(" + k + ", " + what + ")", desk.entry(k, what), plain.entry(k, what));
+            if (what == 3) {
+                due("amount(" + k + ")", desk.amount(k), plain.amount(k));
+            } else {
+                due("entry(" + k + ", 3)", desk.entry(k, 3), plain.entry(k, 3));
+            }
+        }
     }
 }

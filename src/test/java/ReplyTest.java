@@ -7,8 +7,6 @@ final class ReplyTest {
         fieldsAsTheyAre();
         otherTypes();
         settlements();
-        lastTwelveDigits();
-        whichReply();
         CHECKS.end();
     }
 
@@ -57,7 +55,8 @@ final class ReplyTest {
     private static void otherTypes() {
         due("0800", Bench.withOneCard(), new Message("0800").trace(1).terminal("TERM"),
             answered(new Message("0810").trace(1).terminal("TERM"), 12));
-        due("9909 with all", Bench.withOneCard(), Message.money("9909", "00", 5, 7, 1).note("n").original(3),
+        due("9909 with all", Bench.withOneCard(),
+            Message.money("9909", "00", 5, 7, 1).note("n").original(3),
             answered(Message.money("9919", "00", 5, 7, 1), 12));
         due("0000 with an amount", Bench.withOneCard(),
             new Message("0000").amount(123456789012L).trace(1).terminal("TERM"),
@@ -87,42 +86,5 @@ final class ReplyTest {
         }
         due("96", bench, Message.settlement(6),
             answered(new Message("0510").amount(0).trace(6).terminal("TERM"), 96));
-    }
-
-    private static void lastTwelveDigits() {
-        Bench bench = Bench.withOneCard();
-        bench.send(Message.credit(5, 999999999999L, 1));
-        bench.send(Message.credit(5, 999999999999L, 2));
-        bench.send(Message.credit(5, 5, 3));
-        due("above 0", bench, Message.settlement(4),
-            answered(new Message("0510").amount(3).trace(4).terminal("TERM"), 0));
-        CHECKS.due("settled", bench.desk.settled(), 2000000000003L);
-        bench.send(Message.debit(5, 999999999999L, 5));
-        bench.send(Message.debit(5, 123456789013L, 6));
-        due("below 0", bench, Message.settlement(7),
-            answered(new Message("0510").amount(123456789012L).trace(7).terminal("TERM"), 0));
-    }
-
-    private static void whichReply() {
-        Bench bench = Bench.withOneCard();
-        bench.send(Message.settlement(1));
-        String reply = bench.reply();
-        CHECKS.due("length", reply.length() / 2, 25);
-        for (int i = 25; i < 130; i++) {
-            CHECKS.due("reply(" + i + ")", bench.desk.reply(i), -1);
-        }
-        CHECKS.due("reply(-1)", bench.desk.reply(-1), -1);
-        CHECKS.due("reply(least)", bench.desk.reply(Integer.MIN_VALUE), -1);
-        CHECKS.due("reply(most)", bench.desk.reply(Integer.MAX_VALUE), -1);
-        bench.feed(Message.hold(5, 1, 2).hex());
-        bench.desk.tick(3);
-        bench.desk.open(9, 9);
-        CHECKS.due("until the next handle", bench.reply(), reply);
-        bench.desk.handle();
-        CHECKS.due("a longer one", bench.reply().length() / 2, 30);
-        bench.send(Message.settlement(1));
-        CHECKS.due("a shorter one", bench.reply(), reply);
-        CHECKS.due("no request", bench.desk.handle(), 30);
-        CHECKS.due("no reply", bench.reply(), "");
     }
 }
