@@ -329,7 +329,7 @@ public final class CardMessageDesk {
         }
     }
 
-    /** Reads a row from its start. What is wrong once stays wrong: it is enough to ask at the end. */
+    /** Reads a row from its start. What is wrong once stays wrong: asking at the end is enough. */
     private static final class Reader {
         private final ByteRow row;
         private int place;
@@ -385,7 +385,7 @@ public final class CardMessageDesk {
             return value;
         }
 
-        /** A number that says how much follows; out of bounds it is no good, and nothing follows. */
+        /** A number that says how much follows; out of bounds it is wrong, and nothing follows. */
         int readCount(int digits, int least, int most) {
             long count = readDigits(digits);
             if (count < least || count > most) {

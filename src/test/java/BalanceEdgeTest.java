@@ -10,7 +10,8 @@ final class BalanceEdgeTest {
         refusedCard();
         belowZero();
         belowTheMark();
-        onTheMark();
+        balanceOnTheMark();
+        availableOnTheMark();
         aboveWhatIsOpened();
         availableBelowZero();
         availableOfTheLastHold();
@@ -95,15 +96,50 @@ final class BalanceEdgeTest {
         CHECKS.due("it is opened", bench.desk.open(5, 0), false);
     }
 
-    /** The answer is the same as for no card, but the card is there. */
-    private static void onTheMark() {
-        CHECKS.about("(It can be below 0.)");
-        Bench bench = owing(MOST, 1099511627776L - MOST);
+    /** A card that is there is answered with its balance, even when that is the same number. */
+    private static void balanceOnTheMark() {
+        CHECKS.about("The balance of a card; -1099511627776 when there is no such card");
+        due("just above", owing(MOST, -MISSING - MOST - 1), 5, MISSING + 1, MISSING + 1);
+        due("just below", owing(MOST, -MISSING - MOST + 1), 5, MISSING - 1, MISSING - 1);
+        Bench bench = owing(MOST, -MISSING - MOST);
         due("on what tells that there is none", bench, 5, MISSING, MISSING);
-        CHECKS.due("a hold", bench.send(Message.hold(5, 0, 7)), 51);
+        stillThere(bench);
+        due("after a credit of 1", bench, 5, MISSING + 1, MISSING + 1);
+        CHECKS.due("its reversal", bench.send(Message.reversal(5, 24, 23)), 0);
+        due("after its reversal", bench, 5, MISSING, MISSING);
+    }
+
+    /** The balance is above: what is held makes the difference. */
+    private static void availableOnTheMark() {
+        CHECKS.about("What is available on a card; -1099511627776 when there is no such card");
+        long balance = 2 * MOST + MISSING;
+        Bench bench = Bench.withCard(balance);
+        bench.send(Message.credit(5, MOST, 1));
+        bench.send(Message.credit(5, MOST, 2));
+        bench.send(Message.hold(5, MOST, 3));
+        bench.send(Message.hold(5, MOST, 4));
+        bench.send(Message.debit(5, balance, 5));
+        due("all is spent or held", bench, 5, 2 * MOST, 0);
+        bench.send(Message.reversal(5, 6, 1));
+        bench.send(Message.reversal(5, 7, 2));
+        due("the credits are taken back", bench, 5, 0, -2 * MOST);
+        bench.send(Message.credit(5, balance, 8));
+        due("on what tells that there is none", bench, 5, balance, MISSING);
+        stillThere(bench);
+        due("after a credit of 1", bench, 5, balance + 1, MISSING + 1);
+        bench.desk.tick(50);
+        due("when the holds are over", bench, 5, balance + 1, balance + 1);
+    }
+
+    /** Requests of the traces 20 .. 23, of which the last alone changes a balance: by 1. */
+    private static void stillThere(Bench bench) {
         CHECKS.due("it is opened", bench.desk.open(5, 0), false);
-        CHECKS.due("a credit", bench.send(Message.credit(5, 1, 8)), 0);
-        due("1 more", bench, 5, MISSING + 1, MISSING + 1);
+        CHECKS.due("a hold", bench.send(Message.hold(5, 0, 20)), 51);
+        CHECKS.due("a debit", bench.send(Message.debit(5, 0, 21)), 51);
+        CHECKS.due("a reversal", bench.send(Message.reversal(5, 22, 999)), 25);
+        CHECKS.due("a credit", bench.send(Message.credit(5, 1, 23)), 0);
+        CHECKS.due("a card that is not there", bench.send(Message.hold(6, 0, 23)), 14);
+        due("of a card that is not there", bench, 6, MISSING, MISSING);
     }
 
     private static void aboveWhatIsOpened() {
